@@ -29,6 +29,7 @@ public final class PromisesTest {
         puts();
         putsFull();
         emptyNests();
+        deepNest();
         walks();
         weights();
         prices();
@@ -664,6 +665,25 @@ public final class PromisesTest {
         due("24 around", -2, y.put(0, 11, true));
         due("24 far too many would be", -3, y.put(0, 0, false));
         due("24 nothing changed", 0, y.walked(0));
+    }
+
+    /** Each of the twelve in the next one, a PIECE in the first: as deep as can be. */
+    private static void deepNest() {
+        OctagonYard y = new OctagonYard();
+        y.block(1, 2, 3);
+        for (int i = 0; i < 12; i++) {
+            y.assembly();
+        }
+        for (int outer = 11; outer > 0; outer--) {
+            y.put(outer, outer - 1, true);
+        }
+        due("24 into the innermost", 1, y.put(0, 0, false));
+        due("25 from the outermost", 1, y.walked(11));
+        due("26 from the outermost", 0, y.walk(11, 0));
+        due("27 from the outermost", 48, y.weight(11));
+        y.move(0, 0, 1);
+        due("29 from the outermost", 0, y.check(11));
+        due("24 around all", -2, y.put(0, 11, true));
     }
 
     private static void walks() {
