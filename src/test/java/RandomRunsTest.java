@@ -2,7 +2,8 @@ import java.util.Random;
 
 /** Long runs of calls, each answer compared with the plain yard's; the same seeds every time. */
 public final class RandomRunsTest {
-    private static final int CALLS = 512;
+    /** An object is good for 512 calls; one pick from the groups below makes at most nine. */
+    private static final int CALLS = 512 - 8;
     private static final String[] MAKING = {"block", "cut", "move", "turn", "scrap", "undo"};
     private static final String[] ASKING = {"bound", "about", "corner", "side", "area", "volume", "inside", "waste",
         "near", "touch", "meet", "near", "touch", "meet", "count"};
@@ -18,6 +19,7 @@ public final class RandomRunsTest {
     private final int size;
     private int pieces;
     private int assemblies;
+    private int calls;
 
     private RandomRunsTest(Due due, int seed) {
         this.due = due;
@@ -37,7 +39,7 @@ public final class RandomRunsTest {
     private void run() {
         // How much of each a run has differs, so that some fill up what others leave nearly empty.
         int making = 1 + random.nextInt(8), ruling = random.nextInt(4), building = random.nextInt(8);
-        for (int i = 0; i < CALLS; i++) {
+        for (int picks = 0; picks < 512 && calls < CALLS; picks++) {
             int at = random.nextInt(making + ruling + building + 8);
             String[] group = at < making ? MAKING
                 : at < making + ruling ? RULING
@@ -69,6 +71,7 @@ public final class RandomRunsTest {
     }
 
     private void same(String call, long want, long got) {
+        calls++;
         due.is("seed " + seed + ": " + call, want, got);
     }
 
@@ -114,7 +117,7 @@ public final class RandomRunsTest {
         for (int tries = 0; tries < 3; tries++) {
             int way = about(0, 3);
             int c = random.nextInt(50) == 0 ? about(-4000, 4000) : from(-size, 2 * size);
-            int high = yard.bound(p, way), low = yard.bound(p, way + 4);
+            int high = plain.bound(p, way), low = plain.bound(p, way + 4);
             if (high != 100000 && low != 100000 && random.nextInt(5) != 0) {
                 c = from(-low, high);
             }
@@ -131,7 +134,7 @@ public final class RandomRunsTest {
             // Beside another one, so that SIDES often meet.
             int q = from(0, Math.max(0, pieces - 1));
             int k = from(0, 1);
-            int far = yard.bound(q, k) + yard.bound(p, k + 4);
+            int far = plain.bound(q, k) + plain.bound(p, k + 4);
             x = k == 0 ? far : from(-1, 1);
             y = k == 1 ? far : from(-1, 1);
         }
@@ -177,9 +180,9 @@ public final class RandomRunsTest {
     private void inside(int p) {
         int x = about(-10000, 10000), y = about(-10000, 10000);
         int i = from(0, 7);
-        if (yard.corner(p, i, 0) != 100000) {
-            x = yard.corner(p, i, 0) + from(-2, 2);
-            y = yard.corner(p, i, 1) + from(-2, 2);
+        if (plain.corner(p, i, 0) != 100000) {
+            x = plain.corner(p, i, 0) + from(-2, 2);
+            y = plain.corner(p, i, 1) + from(-2, 2);
         }
         same("inside " + p + " " + x + " " + y, plain.inside(p, x, y), yard.inside(p, x, y));
     }
