@@ -607,6 +607,15 @@ public final class AssemblyEdgesTest {
         y.scrap(0);
         y.undo();
         due("30 a scrap takes no number", 2, y.block(1, 1, 1));
+        // A wedge in the place of a taller box: the box's left SIDE is not the wedge's.
+        OctagonYard z = Shapes.withBlocks(1);
+        z.block(4, 9, 1);
+        z.undo();
+        due("30 (0,4), (4,0), (4,4)", 1, z.cut(0, 2, 4));
+        z.block(4, 4, 1);
+        z.move(2, -4, 4);
+        due("15 a point alone", 0, z.near(2, 1));
+        due("15 a point alone", 0, z.near(1, 2));
     }
 
     /** 31: what 0 to 3. */
