@@ -392,6 +392,9 @@ public final class OctagonYard {
 
     /** The points of a PIECE. All its numbers are doubled, so that halves stay whole. */
     private static final class Octagon {
+        /** Below all that a point can measure, so that the first one is always farther. */
+        private static final int UNREACHED = -1000000;
+
         /** How far the points go in each direction; between whole E k it may end at a half. */
         final int[] reach = new int[DIRECTIONS];
         final int[] cornerX = new int[DIRECTIONS];
@@ -582,7 +585,7 @@ public final class OctagonYard {
         }
 
         private void clearReach() {
-            Arrays.fill(reach, Integer.MIN_VALUE);
+            Arrays.fill(reach, UNREACHED);
         }
 
         private void stretch(int x, int y) {
@@ -998,25 +1001,29 @@ public final class OctagonYard {
 
         void gather(int a) {
             length = 0;
-            gatherDown(a, 0);
+            gatherDown(this, a, 0);
         }
 
-        private void gatherDown(int a, int depth) {
+        private static void gatherDown(Assemblies all, int a, int depth) {
             if (depth >= MOST) {
                 return;
             }
-            Assembly row = rows[a];
+            Assembly row = all.rows[a];
             for (int i = 0; i < row.size; i++) {
                 int part = row.part[i];
                 if (!row.isAssembly[i]) {
-                    if (length < MOST_PIECES) {
-                        way[length] = part;
-                        length++;
-                    }
-                } else if (rows[part].pieces > 0) {
+                    all.gatherPiece(part);
+                } else if (all.rows[part].pieces > 0) {
                     // Empty ones, nested twelve deep, would be gone through for ever.
-                    gatherDown(part, depth + 1);
+                    gatherDown(all, part, depth + 1);
                 }
+            }
+        }
+
+        private void gatherPiece(int piece) {
+            if (length < MOST_PIECES) {
+                way[length] = piece;
+                length++;
             }
         }
 

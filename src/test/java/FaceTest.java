@@ -8,6 +8,7 @@ import java.nio.file.Path;
 import java.util.Arrays;
 import java.util.Set;
 import java.util.TreeSet;
+import java.util.regex.Matcher;
 import java.util.regex.Pattern;
 import java.util.stream.Collectors;
 
@@ -28,7 +29,9 @@ public final class FaceTest {
         constants();
         members();
         nestedClasses();
-        forbiddenWords(withoutComments(Files.readString(SOURCE)));
+        String code = withoutComments(Files.readString(SOURCE));
+        forbiddenWords(code);
+        library(code);
         DUE.end();
     }
 
@@ -91,5 +94,15 @@ public final class FaceTest {
         }
         String imports = Arrays.stream(code.split("\n")).filter(l -> l.startsWith("import")).collect(Collectors.joining());
         DUE.holds("the imports are " + imports, imports.equals("import java.util.Arrays;"));
+    }
+
+    /** Rule 4 lists functions alone, so a constant of the library is outside it, too. */
+    private static void library(String code) {
+        Set<String> listed = Set.of("Math.max(", "Math.min(", "Math.floorDiv(", "Integer.bitCount(",
+            "System.arraycopy(", "Arrays.fill(");
+        Matcher used = Pattern.compile("\\b(?:Math|Integer|Long|System|Arrays|String|Character|Boolean)\\.\\w+\\W").matcher(code);
+        while (used.find()) {
+            DUE.holds(used.group() + " is listed", listed.contains(used.group()));
+        }
     }
 }
